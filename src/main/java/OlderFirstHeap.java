@@ -196,8 +196,8 @@ public final class OlderFirstHeap {
     private void clean() {
         walkFromAllRoots();
         boolean freed = false;
-        // Steps that don't divide SLOTS make the last window overlap the first, which does no harm.
-        for (int looked = 0; looked < SLOTS && !freed; looked += windowSize) {
+        // Even windows of one slot have gone all round the heap after SLOTS of them.
+        for (int window = 0; window < SLOTS && !freed; window++) {
             freed = sweepWindow();
         }
     }
