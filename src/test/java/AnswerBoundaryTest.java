@@ -11,33 +11,39 @@ public final class AnswerBoundaryTest {
     }
 
     public static void main(String[] args) {
-        payloadOutOfRange();
-        payloadOfNothing();
-        payloadOfFirstAndLastRoot();
-        heldOutOfRange();
-        heldAtBothEnds();
-        sameOutOfRange();
-        sameOfNothing();
-        sameIsOfObjectsNotPayloads();
-        reachableOfNone();
-        reachableCountsEachOnce();
-        reachableLeavesOutWhatNoRootReaches();
-        reachableFromOutOfRange();
-        reachableFromNothing();
-        reachableFromRootAlone();
-        reachableFromFollowsEveryField();
-        distanceOutOfRange();
-        distanceOfNothing();
-        distanceToTheSame();
-        distanceWithoutAWay();
-        distanceIsTheLeast();
-        distanceAtItsGreatest();
-        sumOfNone();
-        sumWraps();
-        sumCountsEachOnce();
-        sumLeavesOutWhatNoRootReaches();
-        questionsChangeNothing();
-        questionsBetweenChangesChangeNothing();
+        Check.test("promise 9: 0 if r is out of range", AnswerBoundaryTest::payloadOutOfRange);
+        Check.test("promise 9: 0 if r refers to nothing", AnswerBoundaryTest::payloadOfNothing);
+        Check.test("promise 9: roots 0 and 7, least and greatest payload",
+            AnswerBoundaryTest::payloadOfFirstAndLastRoot);
+        Check.test("promise 10: false if r is out of range", AnswerBoundaryTest::heldOutOfRange);
+        Check.test("promise 10: roots 0 and 7, payload 0", AnswerBoundaryTest::heldAtBothEnds);
+        Check.test("promise 11: false if one is out of range", AnswerBoundaryTest::sameOutOfRange);
+        Check.test("promise 11: false if one refers to nothing", AnswerBoundaryTest::sameOfNothing);
+        Check.test("promise 11: the same object, not a like one", AnswerBoundaryTest::sameIsOfObjectsNotPayloads);
+        Check.test("promise 12: none reachable", AnswerBoundaryTest::reachableOfNone);
+        Check.test("promise 12: each object counts once, up to 24", AnswerBoundaryTest::reachableCountsEachOnce);
+        Check.test("promise 12: what no root reaches doesn't count",
+            AnswerBoundaryTest::reachableLeavesOutWhatNoRootReaches);
+        Check.test("promise 13: 0 if r is out of range", AnswerBoundaryTest::reachableFromOutOfRange);
+        Check.test("promise 13: 0 if r refers to nothing", AnswerBoundaryTest::reachableFromNothing);
+        Check.test("promise 13: from root r alone, its object counted in",
+            AnswerBoundaryTest::reachableFromRootAlone);
+        Check.test("promise 13: by every field", AnswerBoundaryTest::reachableFromFollowsEveryField);
+        Check.test("promise 14: NOTHING if a or b is out of range", AnswerBoundaryTest::distanceOutOfRange);
+        Check.test("promise 14: NOTHING if a or b refers to nothing", AnswerBoundaryTest::distanceOfNothing);
+        Check.test("promise 14: 0 if they are the same", AnswerBoundaryTest::distanceToTheSame);
+        Check.test("promise 14: NOTHING if there is no way", AnswerBoundaryTest::distanceWithoutAWay);
+        Check.test("promise 14: the least number of fields", AnswerBoundaryTest::distanceIsTheLeast);
+        Check.test("promise 14: up to 23 fields", AnswerBoundaryTest::distanceAtItsGreatest);
+        Check.test("promise 15: none reachable", AnswerBoundaryTest::sumOfNone);
+        Check.test("promise 15: wrapping", AnswerBoundaryTest::sumWraps);
+        Check.test("promise 15: each object counts once", AnswerBoundaryTest::sumCountsEachOnce);
+        Check.test("promise 15: what no root reaches doesn't count",
+            AnswerBoundaryTest::sumLeavesOutWhatNoRootReaches);
+        Check.test("promises 9 to 15: the calls change nothing that any call answers",
+            AnswerBoundaryTest::questionsChangeNothing);
+        Check.test("promises 9 to 15: nor do they between the calls that change the heap",
+            AnswerBoundaryTest::questionsBetweenChangesChangeNothing);
         Check.end();
     }
 

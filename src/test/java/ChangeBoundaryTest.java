@@ -4,26 +4,28 @@ public final class ChangeBoundaryTest {
     }
 
     public static void main(String[] args) {
-        newHeapIsEmpty();
-        heapsShareNothing();
-        makeTakesEveryPayload();
-        makeGivesEmptyFields();
-        makeMovesOnlyRootR();
-        copyRootOfNothing();
-        copyRootOntoItself();
-        copyRootMakesNoCopy();
-        dropOfAnEmptyRoot();
-        dropLeavesOtherHolders();
-        loadOfNothing();
-        loadOntoItsOwnRoot();
-        loadLeavesTheField();
-        loadOfASelfReference();
-        storeOfNothing();
-        storeOfItself();
-        storeReplacesOneFieldAlone();
-        storeRefersToTheObjectNotTheRoot();
-        setPayloadTakesEveryPayload();
-        setPayloadOfASharedObject();
+        Check.test("promise 1: all roots refer to nothing", ChangeBoundaryTest::newHeapIsEmpty);
+        Check.test("promise 1: two heaps share nothing", ChangeBoundaryTest::heapsShareNothing);
+        Check.test("promise 2: every payload is taken", ChangeBoundaryTest::makeTakesEveryPayload);
+        Check.test("promise 2: all fields refer to nothing", ChangeBoundaryTest::makeGivesEmptyFields);
+        Check.test("promise 2: root r alone refers to the new object", ChangeBoundaryTest::makeMovesOnlyRootR);
+        Check.test("promise 3: an object or nothing", ChangeBoundaryTest::copyRootOfNothing);
+        Check.test("promise 3: a root onto itself", ChangeBoundaryTest::copyRootOntoItself);
+        Check.test("promise 3: no new object, also when full", ChangeBoundaryTest::copyRootMakesNoCopy);
+        Check.test("promise 4: an empty root is no refusal", ChangeBoundaryTest::dropOfAnEmptyRoot);
+        Check.test("promise 4: root r alone lets go", ChangeBoundaryTest::dropLeavesOtherHolders);
+        Check.test("promise 5: nothing is loaded too", ChangeBoundaryTest::loadOfNothing);
+        Check.test("promise 5: 'to' may be r", ChangeBoundaryTest::loadOntoItsOwnRoot);
+        Check.test("promise 5: the field stays", ChangeBoundaryTest::loadLeavesTheField);
+        Check.test("promise 5: an object that refers to itself", ChangeBoundaryTest::loadOfASelfReference);
+        Check.test("promise 6: nothing is stored too", ChangeBoundaryTest::storeOfNothing);
+        Check.test("promise 6: 'from' may be r", ChangeBoundaryTest::storeOfItself);
+        Check.test("promise 6: the one field alone changes", ChangeBoundaryTest::storeReplacesOneFieldAlone);
+        Check.test("promise 6: the field refers to the object, not to the root",
+            ChangeBoundaryTest::storeRefersToTheObjectNotTheRoot);
+        Check.test("promise 7: every payload is taken", ChangeBoundaryTest::setPayloadTakesEveryPayload);
+        Check.test("promise 7: the object of root r, by whatever way it is seen",
+            ChangeBoundaryTest::setPayloadOfASharedObject);
         Check.end();
     }
 

@@ -13,17 +13,22 @@ public final class RefusalBoundaryTest {
     }
 
     public static void main(String[] args) {
-        firstAndLastRootAreTaken();
-        badRootIsRefused();
-        badRootComesBeforeAllElse();
-        severalRootsAreAllTestedFirst();
-        firstAndLastFieldAreTaken();
-        badFieldIsRefused();
-        badFieldComesBeforeNothing();
-        nothingIsRefused();
-        onlyTheRootThatMustHoldAnObjectIsRefused();
-        fullIsRefused();
-        badRootComesBeforeFull();
+        Check.test("promises 2 to 7: roots 0 and 7 are not BAD_ROOT", RefusalBoundaryTest::firstAndLastRootAreTaken);
+        Check.test("promises 2 to 7: a root number not in 0 to 7 is BAD_ROOT", RefusalBoundaryTest::badRootIsRefused);
+        Check.test("promises 3, 5 and 6: BAD_ROOT is tested first", RefusalBoundaryTest::badRootComesBeforeAllElse);
+        Check.test("promises 5 and 6: several roots are all tested before anything else",
+            RefusalBoundaryTest::severalRootsAreAllTestedFirst);
+        Check.test("promises 5 and 6: fields 0 to 2 are not BAD_FIELD",
+            RefusalBoundaryTest::firstAndLastFieldAreTaken);
+        Check.test("promises 5 and 6: a field not in 0 to 2 is BAD_FIELD", RefusalBoundaryTest::badFieldIsRefused);
+        Check.test("promises 5 and 6: BAD_FIELD comes before NOTHING",
+            RefusalBoundaryTest::badFieldComesBeforeNothing);
+        Check.test("promises 5 to 7: NOTHING where root r must refer to an object",
+            RefusalBoundaryTest::nothingIsRefused);
+        Check.test("promises 3 to 6: the other root may refer to nothing",
+            RefusalBoundaryTest::onlyTheRootThatMustHoldAnObjectIsRefused);
+        Check.test("promise 2: a make refused with FULL changes nothing", RefusalBoundaryTest::fullIsRefused);
+        Check.test("promise 2: BAD_ROOT comes before FULL", RefusalBoundaryTest::badRootComesBeforeFull);
         Check.end();
     }
 
@@ -184,11 +189,15 @@ public final class RefusalBoundaryTest {
 
     private static void refusedOn(String what, int want, Supplier<CountedHeap> build,
             ToIntFunction<CountedHeap> call) {
-        Check.due(what, call.applyAsInt(build.get()), want);
-        Picture.due(what + " is refused and changes nothing", () -> {
-            CountedHeap x = build.get();
-            call.applyAsInt(x);
-            return x;
-        }, build);
+        try {
+            Check.due(what, call.applyAsInt(build.get()), want);
+            Picture.due(what + " is refused and changes nothing", () -> {
+                CountedHeap x = build.get();
+                call.applyAsInt(x);
+                return x;
+            }, build);
+        } catch (RuntimeException thrown) {
+            Check.report(what + " threw " + thrown);
+        }
     }
 }

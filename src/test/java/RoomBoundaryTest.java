@@ -1,5 +1,5 @@
 import java.util.function.Consumer;
-import java.util.function.Supplier;
+import java.util.function.IntConsumer;
 
 /** The room for 24 reachable objects, and that when and how it is reclaimed can't be seen. */
 public final class RoomBoundaryTest {
@@ -11,23 +11,36 @@ public final class RoomBoundaryTest {
 
     public static void main(String[] args) {
         for (int step : Shapes.STEPS) {
-            twentyFourFitAndNoMore(step);
-            rootRStillRefersToWhatItDoes(step);
-            makeOverTheOnlyHolderAt23(step);
-            oneLetGoMakesRoomForOne(step);
-            eachNumberLetGoMakesRoomForAsMany(step);
-            allLetGoMakesRoomForAll(step);
-            ringsAndSelfReferencesDoNotCount(step);
-            garbageThatRefersToTheLivingDoesNotCount(step);
-            roomIsReclaimedRoundAndRound(step);
-            reusedRoomIsLikeNew(step);
-            stepChangesNothing(step);
-            collectChangesNothing(step);
-            collectAtAnyPointChangesNothing(step);
-            the512thCallIsStillAnswered(step);
-            laterCallsEnd(step);
+            test("promise 1: the step changes no answer", step, RoomBoundaryTest::stepChangesNothing);
+            test("promise 2: room for 24, then FULL", step, RoomBoundaryTest::twentyFourFitAndNoMore);
+            test("promise 2: what root r refers to still counts", step,
+                RoomBoundaryTest::rootRStillRefersToWhatItDoes);
+            test("promise 2: at 23 a root may be made anew for ever", step,
+                RoomBoundaryTest::makeOverTheOnlyHolderAt23);
+            test("promise 2: one let go, by whichever call, is room for one", step,
+                RoomBoundaryTest::oneLetGoMakesRoomForOne);
+            test("promise 2: so many let go are room for as many", step,
+                RoomBoundaryTest::eachNumberLetGoMakesRoomForAsMany);
+            test("promise 2: all let go are room for 24", step, RoomBoundaryTest::allLetGoMakesRoomForAll);
+            test("promise 2: rings that no root reaches don't count", step,
+                RoomBoundaryTest::ringsAndSelfReferencesDoNotCount);
+            test("promise 2: what refers to the living, but isn't reached, doesn't count", step,
+                RoomBoundaryTest::garbageThatRefersToTheLivingDoesNotCount);
+            test("promise 2: room is reclaimed round and round", step,
+                RoomBoundaryTest::roomIsReclaimedRoundAndRound);
+            test("promise 2: an object in reclaimed room is like new", step, RoomBoundaryTest::reusedRoomIsLikeNew);
+            test("promise 8: collect changes nothing", step, RoomBoundaryTest::collectChangesNothing);
+            test("promise 8: collect changes nothing at any point of a run", step,
+                RoomBoundaryTest::collectAtAnyPointChangesNothing);
+            test("promises 2 and 12: the 512th call is still answered", step,
+                RoomBoundaryTest::the512thCallIsStillAnswered);
+            test("promises 2 to 15: later calls end without a throw", step, RoomBoundaryTest::laterCallsEnd);
         }
         Check.end();
+    }
+
+    private static void test(String name, int step, IntConsumer body) {
+        Check.test(name + ", step " + step, () -> body.accept(step));
     }
 
     // "The heap has room for 24 reachable objects", "if there are 24 reachable objects: FULL".
@@ -37,9 +50,6 @@ public final class RoomBoundaryTest {
         for (int i = 1; i <= ROOM; i++) {
             Check.due(at + "make number " + i, Shapes.push(x, 0, 1, i), 0);
             Check.due("promise 12, step " + step + ": after make number " + i, x.reachable(), i);
-        }
-        for (int r = 0; r < Shapes.ROOTS; r++) {
-            Check.due(at + "list of 24, make " + r, x.make(r, 99), FULL);
         }
         isFull(at + "list of 24", x, ROOM * (ROOM + 1) / 2);
         isFull(at + "tree of 24", Shapes.fullTree(step), ROOM * (ROOM + 1) / 2);
@@ -246,6 +256,7 @@ public final class RoomBoundaryTest {
             }
         }
         x.make(0, 0);
+        Check.due(at + "payload 0 of a late object", x.payload(0), 0);
         for (int field = 0; field < Shapes.FIELDS; field++) {
             x.load(0, field, 1);
             Check.due(at + "field " + field + " of a late object", x.held(1), false);
