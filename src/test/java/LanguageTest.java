@@ -9,10 +9,9 @@ import java.util.HashSet;
 import java.util.List;
 import java.util.Set;
 import java.util.TreeSet;
-import java.util.regex.Matcher;
 import java.util.regex.Pattern;
 
-/** The public face of the document, and those rules of LANGUAGE.md that a look at the class can tell. */
+/** The public face of the document, and those rules of LANGUAGE.md that names and types can tell. */
 public final class LanguageTest {
     private static final Path SOURCE = Path.of("src/main/java/OlderFirstHeap.java");
     private static final List<String> FACE = List.of(
@@ -38,6 +37,8 @@ public final class LanguageTest {
         Check.due("rule 1: nested classes", type.getDeclaredClasses().length, 0);
         Check.due("rule 1: constructors", type.getDeclaredConstructors().length, 1);
         Check.due("rule 1: public constructors", type.getConstructors().length, 1);
+        Check.due("the constructor takes one int",
+            Arrays.equals(type.getDeclaredConstructors()[0].getParameterTypes(), new Class<?>[] {int.class}), true);
         methods(type);
         fields(type);
         source(Files.readString(SOURCE));
@@ -53,6 +54,9 @@ public final class LanguageTest {
                 publicNames.add(method.getName());
             }
             Check.due("rule 10: parameters of " + method.getName(), method.getParameterCount() <= 7, true);
+            Check.due("rule 2: parameter types of " + method.getName(),
+                TYPES.containsAll(List.of(method.getParameterTypes())), true);
+            Check.due("rule 4: " + method.getName() + " answers no array", method.getReturnType().isArray(), false);
         }
         same("public methods", face, FACE);
         for (Method method : type.getDeclaredMethods()) {
@@ -71,10 +75,15 @@ public final class LanguageTest {
             int modifiers = field.getModifiers();
             if (Modifier.isPublic(modifiers)) {
                 constants.add(field.getName());
+                Check.due("public constant int " + field.getName(),
+                    field.getType() == int.class && Modifier.isStatic(modifiers), true);
             } else {
                 Check.due("rule 1: private " + field.getName(), Modifier.isPrivate(modifiers), true);
             }
             Check.due("rule 2: type of " + field.getName(), TYPES.contains(field.getType()), true);
+            if (field.getType().isArray()) {
+                Check.due("rule 4: final array " + field.getName(), Modifier.isFinal(modifiers), true);
+            }
             if (Modifier.isStatic(modifiers)) {
                 boolean plain = field.getType() == int.class || field.getType() == long.class;
                 Check.due("rule 5: constant " + field.getName(), plain && Modifier.isFinal(modifiers), true);
@@ -93,12 +102,6 @@ public final class LanguageTest {
             Check.due("rules 2, 3, 4, 6: the word " + word, found, false);
         }
         Check.due("rule 6: lambda or method reference", code.contains("->") || code.contains("::"), false);
-        Matcher made = Pattern.compile("\\bnew\\b").matcher(code);
-        Matcher madeInField = Pattern.compile(
-            "private final (?:int|boolean)\\[\\] \\w+ = new (?:int|boolean)\\[[A-Z_]+\\];").matcher(code);
-        Check.due("rule 4: arrays made in fields alone", made.results().count(), madeInField.results().count());
-        Check.due("rule 10: no call inside a call's arguments",
-            Pattern.compile("\\w\\([^()]*\\w\\(").matcher(code).find(), false);
     }
 
     private static String signature(Method method) {

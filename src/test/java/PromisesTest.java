@@ -11,6 +11,7 @@ public final class PromisesTest {
 
     public static void main(String[] args) {
         constants();
+        readmeExample();
         newObject();
         for (int step : Shapes.STEPS) {
             makeFillsTheRoom(step);
@@ -41,6 +42,23 @@ public final class PromisesTest {
         Check.due("BAD_FIELD", OlderFirstHeap.BAD_FIELD, BAD_FIELD);
         Check.due("NOTHING", OlderFirstHeap.NOTHING, NOTHING);
         Check.due("FULL", OlderFirstHeap.FULL, FULL);
+    }
+
+    // README.md tells these calls and answers: what is changed here is changed there.
+    private static void readmeExample() {
+        CountedHeap heap = new CountedHeap(4);
+        Check.due("promise 2: README: make(0, 10)", heap.make(0, 10), 0);
+        Check.due("promise 2: README: make(1, 20)", heap.make(1, 20), 0);
+        Check.due("promise 6: README: store(0, 2, 1)", heap.store(0, 2, 1), 0);
+        Check.due("promise 4: README: drop(1)", heap.drop(1), 0);
+        Check.due("promise 12: README: reachable()", heap.reachable(), 2);
+        Check.due("promise 15: README: sum()", heap.sum(), 30);
+        Check.due("promise 5: README: load(0, 2, 5)", heap.load(0, 2, 5), 0);
+        Check.due("promise 9: README: payload(5)", heap.payload(5), 20);
+        Check.due("promise 14: README: distance(0, 5)", heap.distance(0, 5), 1);
+        Check.due("promise 2: README: make(8, 30)", heap.make(8, 30), BAD_ROOT);
+        Check.due("promise 5: README: load(0, 3, 5)", heap.load(0, 3, 5), BAD_FIELD);
+        Check.due("promise 7: README: setPayload(1, 30)", heap.setPayload(1, 30), NOTHING);
     }
 
     private static void newObject() {
