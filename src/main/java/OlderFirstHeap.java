@@ -237,8 +237,10 @@ public final class OlderFirstHeap {
         }
     }
 
+    // Each slot is seen once, so 'seen' has room whenever we come to it; the look at seenCount makes
+    // that plain at the index itself.
     private void see(int object, int distance) {
-        if (object == NO_OBJECT || distances[object] != UNSEEN) {
+        if (object == NO_OBJECT || distances[object] != UNSEEN || seenCount >= SLOTS) {
             return;
         }
         distances[object] = distance;
